@@ -158,11 +158,13 @@ public final class WatchedHalls {
     }
 
     public int fewest() {
+        pictures.survey();
         posts.weigh();
         return posts.size();
     }
 
     public int post(int i) {
+        pictures.survey();
         posts.weigh();
         return posts.cellOf(i);
     }
@@ -174,6 +176,7 @@ public final class WatchedHalls {
         if (!grid.mayStand(cell)) {
             return STATE;
         }
+        pictures.survey();
         return tours.lengthFrom(cell);
     }
 
@@ -184,6 +187,7 @@ public final class WatchedHalls {
         if (!grid.mayStand(cell)) {
             return STATE;
         }
+        pictures.survey();
         return tours.moveFrom(cell, i);
     }
 
@@ -282,6 +286,7 @@ public final class WatchedHalls {
         if (!isTime(time)) {
             return OUTSIDE;
         }
+        thefts.survey();
         return thefts.lengthOf(pictures.cellOf(picture), cell, time);
     }
 
@@ -292,6 +297,7 @@ public final class WatchedHalls {
         if (!isTime(time)) {
             return OUTSIDE;
         }
+        thefts.survey();
         return thefts.moveOf(pictures.cellOf(picture), cell, time, i);
     }
 
@@ -299,6 +305,7 @@ public final class WatchedHalls {
         if (!pictures.isPicture(picture) || !grid.isCell(cell)) {
             return UNKNOWN;
         }
+        thefts.survey();
         return thefts.goodHours(pictures.cellOf(picture), cell);
     }
 
@@ -464,7 +471,7 @@ public final class WatchedHalls {
 
         /** Whether sight goes through the cell in column x and row y. */
         boolean isClear(int x, int y) {
-            return holds(clearCells, y * width + x);
+            return (clearCells >>> y * width + x & 1L) != 0L;
         }
 
         /** The cell to which a move leads, if one may stand there; NOWHERE. */
@@ -827,9 +834,8 @@ public final class WatchedHalls {
             this.pictures = pictures;
         }
 
-        /** For each set of pictures, how many cells it needs. */
+        /** For each set of pictures, how many cells it needs; behind a survey of the pictures. */
         void weigh() {
-            pictures.survey();
             needs[0] = 0;
             for (int set = 1; set <= pictures.all(); set++) {
                 needs[set] = needOf(set);
@@ -1098,7 +1104,10 @@ public final class WatchedHalls {
         }
     }
 
-    /** The shortest tours: a layer of the search is the set of pictures seen so far. */
+    /**
+     * The shortest tours, behind a survey of the pictures: a layer of the search is the set of
+     * pictures seen so far.
+     */
     private static final class Tours {
         private final Grid grid;
         private final Pictures pictures;
@@ -1119,7 +1128,6 @@ public final class WatchedHalls {
         }
 
         private int search(int start) {
-            pictures.survey();
             trail.clear();
             trail.visit(pictures.setAt(start), start, STAY, 0);
             for (int mark = 0; mark < MOST_MARKS && mark < trail.size(); mark++) {
@@ -1159,16 +1167,8 @@ public final class WatchedHalls {
             this.trail = trail;
         }
 
-        int lengthOf(int target, int start, int time) {
-            return trail.movesTo(search(target, start, time));
-        }
-
-        int moveOf(int target, int start, int time, int i) {
-            return trail.moveTo(search(target, start, time), i);
-        }
-
-        /** For each time of the period the cells on which a thief may be. */
-        private void survey() {
+        /** Ahead of all other calls: for each time of the period the cells on which a thief may be. */
+        void survey() {
             commonLength = rounds.commonLength();
             Arrays.fill(unseen, grid.standing());
             for (int w = 0; w < MOST_WATCHERS; w++) {
@@ -1183,12 +1183,19 @@ public final class WatchedHalls {
             }
         }
 
+        int lengthOf(int target, int start, int time) {
+            return trail.movesTo(search(target, start, time));
+        }
+
+        int moveOf(int target, int start, int time, int i) {
+            return trail.moveTo(search(target, start, time), i);
+        }
+
         private int after(int time) {
             return time + 1 < commonLength ? time + 1 : 0;
         }
 
         private int search(int target, int start, int time) {
-            survey();
             trail.clear();
             int begin = time % Math.max(1, commonLength);
             if (holds(unseen[begin], start)) {
@@ -1223,7 +1230,6 @@ public final class WatchedHalls {
          * and then from where and when to the picture at such a time.
          */
         int goodHours(int target, int start) {
-            survey();
             narrowTo(start, true);
             leadBack();
             narrowTo(target, false);

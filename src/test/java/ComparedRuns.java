@@ -51,7 +51,11 @@ public final class ComparedRuns {
         int hung = chance.nextInt(9);
         for (int n = 0; n < hung; n++)
             same(seed, told, new int[] {9, chance.nextInt(size), chance.nextInt(4), 0, 0}, x, y);
-        for (int v = 0; v < chance.nextInt(5); v++)
+        // with many watchers there is hardly a theft: half of the runs have two at most, who see little
+        boolean few = chance.nextBoolean();
+        if (few) same(seed, told, new int[] {4, 1 + chance.nextInt(2), 0, 0, 0}, x, y);
+        int watchers = chance.nextInt(few ? 3 : 5);
+        for (int v = 0; v < watchers; v++)
             for (int n = 0, c = chance.nextInt(size), long6 = 1 + chance.nextInt(6); n < long6; n++) {
                 if (n > 0) c = beside(chance, x, c);
                 same(seed, told, new int[] {17, v, c, 0, 0}, x, y);
@@ -81,7 +85,7 @@ public final class ComparedRuns {
             case "hall": a[1] = 2 + chance.nextInt(7); a[2] = 2 + chance.nextInt(7); break;
             case "cell": a[1] = c; a[2] = chance.nextInt(12) < 7 - blocked ? 0 : chance.nextInt(4); break;
             case "law": a[1] = chance.nextInt(3); break;
-            case "range": a[1] = 1 + chance.nextInt(8); break;
+            case "range": a[1] = chance.nextInt(3) == 0 ? 1 + chance.nextInt(8) : 1 + chance.nextInt(3); break;
             case "far": case "sees": a[1] = c; a[2] = chance.nextInt(size); break;
             case "picture": a[1] = c; a[2] = chance.nextInt(4); break;
             case "about": a[1] = p; a[2] = chance.nextInt(2); break;
@@ -97,7 +101,13 @@ public final class ComparedRuns {
             case "where": a[1] = v; a[2] = t; break;
             case "watched": a[1] = c; a[2] = t; break;
             case "gap": a[1] = p; break;
-            case "theft": case "theftStep": a[1] = p; a[2] = c; a[3] = t; a[4] = chance.nextInt(12); break;
+            case "theft": case "theftStep":
+                a[1] = p;
+                a[2] = c;
+                for (int n = 0; n < 4 && (x.watched(a[2], t) != 0 || x.kind(a[2]) % 3 != 0); n++) a[2] = chance.nextInt(size);
+                a[3] = t;
+                a[4] = chance.nextInt(12);
+                break;
             case "count": a[1] = chance.nextInt(5); break;
             default: a[1] = c;
         }
