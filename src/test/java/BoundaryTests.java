@@ -327,6 +327,7 @@ public final class BoundaryTests {
         rangeInBoxes();
         lawOfLines();
         lawOfBoxes();
+        lawOfAllBoxes();
         lawOfWaysInside();
         lawOfWaysCorners();
         lawOfWaysTwoCorners();
@@ -477,6 +478,23 @@ public final class BoundaryTests {
         Tried.due("a wall in it", column.sees(1, 7), 0);
     }
 
+    private static void lawOfAllBoxes() {
+        Tried.by("LAW 1: all CELLS of the least box (of rows and columns) that holds both are FLOOR or GLASS.");
+        for (int c = 0; c < 12; c++)
+            for (int kind = 0; kind <= 3; kind++) {
+                WatchedHalls x = Tried.open(4, 3);
+                x.law(1);
+                x.cell(c, kind);
+                for (int a = 0; a < 12; a++)
+                    for (int b = 0; b < 12; b++) {
+                        if (a == b || a == c || b == c) continue;
+                        boolean within = c % 4 >= Math.min(a % 4, b % 4) && c % 4 <= Math.max(a % 4, b % 4)
+                            && c / 4 >= Math.min(a / 4, b / 4) && c / 4 <= Math.max(a / 4, b / 4);
+                        Tried.due(kind + " in " + c + " from " + a + " to " + b, x.sees(a, b), yes(!within || clear(kind)));
+                    }
+            }
+    }
+
     /** Where a point lies of the way from a to b, in halves of a cell's side: 0 is on it. */
     private static int side(int a, int b, int px, int py) {
         int ax = 2 * (a % 8) + 1, ay = 2 * (a / 8) + 1;
@@ -545,13 +563,11 @@ public final class BoundaryTests {
 
     private static void lawOfWaysCorners() {
         Tried.by("where it goes just through a corner of four CELLS, one at least of the two that it touches there alone is FLOOR or GLASS.");
-        int corners = 0;
-        for (int a : CORNERS)
+        for (int a = 0; a < 64; a++)
             for (int b = 0; b < 64; b++)
                 for (int n = 0; n < 49 && a != b; n++) {
                     int[] two = touched(a, b, 1 + n % 7, 1 + n / 7);
                     if (two == null) continue;
-                    corners++;
                     WatchedHalls x = Tried.open(8, 8);
                     for (int k = 0; k < 16; k++) {
                         x.cell(two[0], k % 4);
@@ -559,11 +575,8 @@ public final class BoundaryTests {
                         int want = yes(clear(k % 4) || clear(k / 4));
                         Tried.due("from " + a + " to " + b + ", " + k % 4 + " in " + two[0] + ", " + k / 4 + " in " + two[1],
                             x.sees(a, b), want);
-                        Tried.due("and back", x.sees(b, a), want);
                     }
                 }
-        // from 0: 7 + .. + 1 corners of the slant, and one more for 3 by 1, 1 by 3, 5 by 1, .. each
-        Tried.due("some corners are tried", yes(corners > 4 * 28), 1);
     }
 
     private static void lawOfWaysTwoCorners() {
@@ -888,7 +901,9 @@ public final class BoundaryTests {
         tourOfNoSteps();
         tourStands();
         tourLongest();
+        tourOfMostStates();
         tourNone();
+        tourAnew();
         tourOrder();
         tourStepNumbers();
     }
@@ -941,6 +956,19 @@ public final class BoundaryTests {
         Tried.due("from the middle", x.tour(32), 70);
     }
 
+    private static void tourOfMostStates() {
+        Tried.by("THE SHORTEST TOUR has fewest steps");
+        // corners and middles of the sides: of 256 sets and 64 cells nearly all are come to from 3, 3
+        WatchedHalls x = Tried.open(8, 8);
+        for (int c : new int[] {0, 3, 7, 24, 31, 56, 59, 63}) Tried.hangInCurtain(x, c);
+        Tried.due("7 to a corner, 21 along three sides, 6 back by the middle of the fourth", Tried.tourOf(x, 27),
+            0, 0, 0, 0, 3, 3, 3, 1, 1, 1, 1, 1, 1, 1, 2, 2, 2, 2, 2, 2, 2, 3, 3, 3, 3, 3, 3, 3, 0, 0, 0, 1, 1, 1);
+        x.cell(58, WALL);
+        x.cell(51, WALL);
+        x.cell(60, WALL);
+        Tried.due("one is cut off", x.tour(27), NONE);
+    }
+
     private static void tourNone() {
         Tried.by("NONE: there is no such step, or TOUR.");
         WatchedHalls x = Tried.drawn(".#.", ".#.");
@@ -960,6 +988,28 @@ public final class BoundaryTests {
         Tried.due("seen through glass", glass.tour(0), 0);
         glass.cell(5, WALL);
         Tried.due("still", glass.tour(0), 0);
+    }
+
+    private static void tourAnew() {
+        Tried.by("NONE: there is no such step, or TOUR.");
+        // what an earlier search found is of no use once the hall has changed
+        WatchedHalls x = Tried.drawn("....", "####");
+        Tried.hangInCurtain(x, 3);
+        Tried.due("there and back", x.tour(0), 6);
+        for (int shut = 1; shut <= 2; shut++) {
+            x.cell(shut, WALL);
+            Tried.due("shut at " + shut, x.tour(0), NONE);
+            Tried.due("no step", x.tourStep(0, 0), NONE);
+            x.cell(shut, FLOOR);
+            Tried.due("there and back again", x.tour(0), 6);
+        }
+        // the second search comes to as many states as the first had ahead of its end
+        WatchedHalls y = Tried.drawn("..", "##");
+        Tried.hangInCurtain(y, 1);
+        Tried.due("there and back", y.tour(0), 2);
+        y.cell(1, WALL);
+        y.cell(2, FLOOR);
+        Tried.due("another way, but not there", y.tour(0), NONE);
     }
 
     private static void tourOrder() {
@@ -1421,7 +1471,9 @@ public final class BoundaryTests {
         shiftsOfNone();
         shiftsNoneBehindAll();
         shiftsLeastGap();
+        shiftsGreatest();
         shiftsOfLikeOnes();
+        shiftsAnew();
         shiftsTriedAll();
     }
 
@@ -1497,6 +1549,44 @@ public final class BoundaryTests {
         Tried.due("shifts", Tried.shiftsOf(only), 0, 0, 0, 0);
     }
 
+    private static void shiftsGreatest() {
+        Tried.by("THE BEST SHIFTS (each below the length of its ROUND; 0 without one)");
+        // 1 has five times of six, and the one that he leaves out is filled in by one shift alone
+        for (int best = 0; best <= 5; best++) {
+            int[] once = new int[6];
+            once[(5 + best) % 6] = 1;
+            WatchedHalls x = byTimes(new int[] {1, 1, 1, 1, 1, 0}, once);
+            Tried.due("the fitting one", x.arrange(), 0);
+            Tried.due("shifts", Tried.shiftsOf(x), 0, best, 0, 0);
+        }
+        // pictures in curtains 1 and 2: watcher 0 is there at 0 and 1, so 1 has to come at 3 and 2 at 4
+        WatchedHalls x = Tried.drawn("%%%", "...");
+        Tried.hangInCurtain(x, 1);
+        Tried.hangInCurtain(x, 2);
+        Tried.go(x, 0, 1, 2, 5, 4, 4, 4);
+        Tried.go(x, 1, 4, 4, 1, 4, 4, 4);
+        Tried.go(x, 2, 5, 5, 5, 2, 5, 5);
+        for (int c = 3; c < 6; c++) x.cell(c, WALL);
+        Tried.due("two pictures", x.arrange(), 2);
+        Tried.due("the last shifts of all", Tried.shiftsOf(x), 0, 5, 5, 0);
+    }
+
+    private static void shiftsAnew() {
+        Tried.by("THE BEST SHIFTS are set: THE WORST GAP then.");
+        WatchedHalls x = byTimes(new int[] {1, 0}, new int[] {1, 0});
+        Tried.due("two in turn", x.arrange(), 0);
+        Tried.due("shifts", Tried.shiftsOf(x), 0, 1, 0, 0);
+        x.step(2, 1);
+        Tried.due("a third one is always there", x.arrange(), 0);
+        Tried.due("all least now", Tried.shiftsOf(x), 0, 0, 0, 0);
+        x.wipe(2);
+        Tried.due("without him", x.arrange(), 0);
+        Tried.due("shifts", Tried.shiftsOf(x), 0, 1, 0, 0);
+        x.wipe(1);
+        Tried.due("one alone", x.arrange(), 1);
+        Tried.due("all least", Tried.shiftsOf(x), 0, 0, 0, 0);
+    }
+
     private static void shiftsOfLikeOnes() {
         Tried.by("of like ones the least SHIFT of WATCHER 0, then of 1, ..");
         int[] three = {1, 0, 0};
@@ -1566,6 +1656,7 @@ public final class BoundaryTests {
         theftUnseenWhileThere();
         theftLongest();
         theftNone();
+        theftAnew();
         theftOrder();
         theftStepNumbers();
         theftBeyondTimes();
@@ -1735,6 +1826,33 @@ public final class BoundaryTests {
         Tried.due("no hours", y.hours(0, 0), 0);
     }
 
+    private static void theftAnew() {
+        Tried.by("NONE: there is none.");
+        WatchedHalls x = Tried.drawn("....", "####");
+        x.picture(3, 0);
+        Tried.due("there and back", x.theft(0, 0, 0), 6);
+        for (int shut = 1; shut <= 3; shut++) {
+            x.cell(shut, GLASS);
+            Tried.due("shut at " + shut, x.theft(0, 0, 0), NONE);
+            Tried.due("no step", x.theftStep(0, 0, 0, 0), NONE);
+            Tried.due("no hours", x.hours(0, 0), 0);
+            x.cell(shut, CURTAIN);
+            Tried.due("there and back again", x.theft(0, 0, 0), 6);
+            Tried.due("its hours", x.hours(0, 0), 1);
+        }
+        x.step(0, 2);
+        Tried.due("a watcher in the curtain 2", x.theft(0, 0, 0), NONE);
+        x.wipe(0);
+        Tried.due("he is away", x.theft(0, 0, 0), 6);
+        // the second search comes to as many states as the first had ahead of its end
+        WatchedHalls y = Tried.drawn("..", "##");
+        y.picture(1, 0);
+        Tried.due("there and back", y.theft(0, 0, 0), 2);
+        y.cell(1, WALL);
+        y.cell(2, FLOOR);
+        Tried.due("another way, but not there", y.theft(0, 0, 0), NONE);
+    }
+
     private static void theftOrder() {
         Tried.by("of like ones the first by steps: 0 to 3 as FACINGS, 4 he stays.");
         int[] corners = {8, 6, 0, 2};
@@ -1832,6 +1950,7 @@ public final class BoundaryTests {
     private static void turnTerms() {
         turnPlaces();
         turnFacings();
+        turnedIsUsed();
         turnRounds();
         turnFourTimes();
         mirrorPlaces();
@@ -1877,6 +1996,35 @@ public final class BoundaryTests {
         int seen = y.from(0);
         y.turn();
         Tried.due("from where 0 is now", y.from(1), seen);
+    }
+
+    /** Kinds, neighbours and sight are those of the new places, with all pictures that there may be. */
+    private static void turnedIsUsed() {
+        Tried.by("TO TURN the HALL: CELL x, y becomes H - 1 - y, x (W and H change);");
+        String[] rows = {"..#.%", ".=...", "..%#.", "....."};
+        for (int way = 0; way < 2; way++) {
+            WatchedHalls old = Tried.drawn(rows);
+            WatchedHalls now = Tried.drawn(rows);
+            for (WatchedHalls x : new WatchedHalls[] {old, now})
+                for (int p = 0; p < 8; p++) x.picture(p < 2 ? p : 13 + p - p / 7 * 4, p % 4);
+            Tried.due("all pictures", now.count(2), 8);
+            if (way == 0) Tried.due("W then", now.turn(), 4);
+            else Tried.due("two cells of another kind in each row but the last", now.mirror(), 6);
+            Tried.due("one stands on as many", now.count(4), old.count(4));
+            Tried.due("as few", now.fewest(), old.fewest());
+            for (int a = 0; a < 20; a++) {
+                int placeA = way == 0 ? a % 5 * 4 + 3 - a / 5 : a / 5 * 5 + 4 - a % 5;
+                Tried.due("view of " + a, now.view(placeA), old.view(a));
+                Tried.due("pictures from " + a, now.from(placeA), old.from(a));
+                Tried.due("tour from " + a, now.tour(placeA), old.tour(a));
+                Tried.due("theft from " + a, now.theft(7, placeA, 0), old.theft(7, a, 0));
+                for (int b = 0; b < 20; b += 3) {
+                    int placeB = way == 0 ? b % 5 * 4 + 3 - b / 5 : b / 5 * 5 + 4 - b % 5;
+                    Tried.due("from " + a + " to " + b, now.far(placeA, placeB), old.far(a, b));
+                    Tried.due(a + " sees " + b, now.sees(placeA, placeB), old.sees(a, b));
+                }
+            }
+        }
     }
 
     private static void turnRounds() {

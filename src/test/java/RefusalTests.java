@@ -40,6 +40,7 @@ public final class RefusalTests {
         theftStep();
         hours();
         count();
+        severalAtOnce();
         readingChangesNothing();
         Tried.end("RefusalTests");
     }
@@ -484,6 +485,32 @@ public final class RefusalTests {
         for (Tried.Maker m : all())
             for (int what : new int[] {-1, 5, 6, -9, 32, MIN, MAX})
                 refused("count(" + what + ")", m, x -> x.count(what), OUTSIDE);
+    }
+
+    /** Each as many refusals at once as its call names, and then one fewer by one. */
+    private static void severalAtOnce() {
+        Tried.by("REFUSALS, of several the first that a call names");
+        Tried.Maker m = RefusalTests::full;
+        refused("picture: cell, facing, full", m, x -> x.picture(64, 4), UNKNOWN);
+        refused("picture: facing, no floor, full", m, x -> x.picture(60, 4), OUTSIDE);
+        refused("picture: no floor, full", m, x -> x.picture(60, 3), STATE);
+        refused("picture: full", m, x -> x.picture(59, 3), FULL);
+        refused("step: watcher, cell", m, x -> x.step(4, 64), UNKNOWN);
+        refused("step: cell, full", m, x -> x.step(3, 64), UNKNOWN);
+        refused("step: no standing, full", m, x -> x.step(3, 60), STATE);
+        refused("step: no neighbour, full", m, x -> x.step(3, 63), STATE);
+        refused("step: full", m, x -> x.step(3, 13), FULL);
+        refused("cell: cell, kind", m, x -> x.cell(64, 4), UNKNOWN);
+        refused("about: picture, what", m, x -> x.about(8, 2), UNKNOWN);
+        refused("shift: watcher, number", m, x -> x.shift(4, 6), UNKNOWN);
+        refused("where: watcher, time", m, x -> x.where(4, 10000), UNKNOWN);
+        refused("watched: cell, time", m, x -> x.watched(64, 10000), UNKNOWN);
+        refused("theft: picture, cell, time", m, x -> x.theft(8, 64, 10000), UNKNOWN);
+        refused("theft: cell, time", m, x -> x.theft(7, 64, 10000), UNKNOWN);
+        refused("theft: time, no standing", m, x -> x.theft(7, 60, 10000), OUTSIDE);
+        refused("theftStep: time, no such step", m, x -> x.theftStep(7, 63, 10000, -1), OUTSIDE);
+        refused("tourStep: cell, no such step", m, x -> x.tourStep(64, -1), UNKNOWN);
+        refused("tourStep: no standing, no such step", m, x -> x.tourStep(60, -1), STATE);
     }
 
     /** Not refused, but told to change nothing as little: the promises name what each call sets. */
