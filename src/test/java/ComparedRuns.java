@@ -1,6 +1,10 @@
 import java.util.Random;
 
-/** Runs of chance calls, each answer compared with that of PlainHalls. The seeds are fixed. */
+/**
+ * Runs of chance calls, each answer compared with that of PlainHalls. The seeds are fixed. What is asked
+ * next hangs on PlainHalls alone, so that an object has no more calls than those that are compared:
+ * behind its 512th nothing is promised.
+ */
 public final class ComparedRuns {
     private static final String[] NAMES = {
         "hall", "cell", "kind", "law", "range", "far", "sees", "view", "best", "picture", "about", "seen",
@@ -10,7 +14,10 @@ public final class ComparedRuns {
         1, 30, 3, 4, 4, 6, 10, 5, 3, 14, 5, 8, 6, 5, 6, 6, 8, 40, 2, 5, 10, 6, 8, 4, 6, 4, 4, 10, 12, 5, 3, 3, 4};
     private static final int[] ODD = {-1, -2, 64, 25, 9, 8, 6, 10000, -9, Integer.MIN_VALUE, Integer.MAX_VALUE, 100};
 
+    private static final int MOST_CALLS = 512;
+
     private static int wrong = 0;
+    private static int calls = 0;
     private static final long[] asked = new long[NAMES.length];
     private static final long[] answered = new long[NAMES.length];
 
@@ -27,6 +34,7 @@ public final class ComparedRuns {
     private static void run(long seed) {
         Random chance = new Random(seed);
         WatchedHalls x = new WatchedHalls();
+        calls = 0;
         PlainHalls y = new PlainHalls();
         StringBuilder told = new StringBuilder();
         int most = seed % 3 == 0 ? 8 : 5;
@@ -36,12 +44,12 @@ public final class ComparedRuns {
             same(seed, told, a, x, y);
             furnish(chance, seed, told, x, y, blocked);
         }
-        for (int n = 0; n < 120; n++) if (!same(seed, told, next(chance, x, blocked), x, y)) return;
+        for (int n = 0; n < 120; n++) if (!same(seed, told, next(chance, y, blocked), x, y)) return;
     }
 
     /** Walls, pictures and rounds at once, so that the calls behind have something to tell of. */
     private static void furnish(Random chance, long seed, StringBuilder told, WatchedHalls x, PlainHalls y, int blocked) {
-        int size = x.count(0) * x.count(1);
+        int size = y.count(0) * y.count(1);
         for (int n = 0; n < size * blocked / 12; n++)
             same(seed, told, new int[] {1, chance.nextInt(size), 1 + chance.nextInt(3), 0, 0}, x, y);
         if (chance.nextInt(3) > 0)
@@ -57,27 +65,25 @@ public final class ComparedRuns {
         int watchers = chance.nextInt(few ? 3 : 5);
         for (int v = 0; v < watchers; v++)
             for (int n = 0, c = chance.nextInt(size), long6 = 1 + chance.nextInt(6); n < long6; n++) {
-                if (n > 0) c = beside(chance, x, c);
+                if (n > 0) c = beside(chance, y, c);
                 same(seed, told, new int[] {17, v, c, 0, 0}, x, y);
             }
     }
 
-    private static int beside(Random chance, WatchedHalls x, int c) {
-        int w = x.count(0), size = w * x.count(1);
-        int[] by = {1, w, -1, -w, 0};
+    private static int beside(Random chance, PlainHalls y, int c) {
         for (int n = 0; n < 20; n++) {
-            int o = c + by[chance.nextInt(5)];
-            if (o >= 0 && o < size && x.far(c, o) >= 0 && x.far(c, o) <= 1) return o;
+            int o = y.by(c, chance.nextInt(5));
+            if (o >= 0) return o;
         }
         return c;
     }
 
-    private static int[] next(Random chance, WatchedHalls x, int blocked) {
+    private static int[] next(Random chance, PlainHalls y, int blocked) {
         int total = 0;
         for (int o : OFTEN) total += o;
         int at = chance.nextInt(total), what = 0;
         while (at >= OFTEN[what]) at -= OFTEN[what++];
-        int size = x.count(0) * x.count(1), hung = Math.max(1, x.count(2));
+        int size = y.count(0) * y.count(1), hung = Math.max(1, y.count(2));
         int c = chance.nextInt(size), p = chance.nextInt(hung), v = chance.nextInt(4);
         int t = chance.nextInt(4) == 0 ? chance.nextInt(10000) : chance.nextInt(70);
         int[] a = {what, 0, 0, 0, 0};
@@ -94,7 +100,7 @@ public final class ComparedRuns {
             case "tourStep": a[1] = c; a[2] = chance.nextInt(16); break;
             case "step":
                 a[1] = v;
-                a[2] = x.where(v, 0) == WatchedHalls.NONE ? c : beside(chance, x, lastOf(x, v));
+                a[2] = y.where(v, 0) == PlainHalls.NONE ? c : beside(chance, y, y.lastOf(v));
                 break;
             case "wipe": case "closed": a[1] = v; break;
             case "shift": a[1] = v; a[2] = chance.nextInt(6); break;
@@ -104,7 +110,7 @@ public final class ComparedRuns {
             case "theft": case "theftStep":
                 a[1] = p;
                 a[2] = c;
-                for (int n = 0; n < 4 && (x.watched(a[2], t) != 0 || x.kind(a[2]) % 3 != 0); n++) a[2] = chance.nextInt(size);
+                for (int n = 0; n < 4 && (y.watched(a[2], t) != 0 || y.kind(a[2]) % 3 != 0); n++) a[2] = chance.nextInt(size);
                 a[3] = t;
                 a[4] = chance.nextInt(12);
                 break;
@@ -115,16 +121,8 @@ public final class ComparedRuns {
         return a;
     }
 
-    /** Some cell of the round does: if it is not the last one, the refusal is compared. */
-    private static int lastOf(WatchedHalls x, int v) {
-        int s = x.shift(v, 0);
-        int found = x.where(v, 5);
-        for (int n = 1; n <= 6; n++) if (x.where(v, n) == x.where(v, 0) && n > 1) { found = x.where(v, n - 1); break; }
-        x.shift(v, s);
-        return found;
-    }
-
     private static boolean same(long seed, StringBuilder told, int[] a, WatchedHalls x, PlainHalls y) {
+        if (++calls > MOST_CALLS) throw new IllegalStateException("seed " + seed + " asks one object too often");
         int due = plain(y, a);
         int got;
         String text = NAMES[a[0]] + "(" + a[1] + ", " + a[2] + ", " + a[3] + ", " + a[4] + ")";

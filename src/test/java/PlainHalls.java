@@ -38,8 +38,8 @@ final class PlainHalls {
         return x(a) == x(b) && (y(a) - y(b) == 1 || y(b) - y(a) == 1);
     }
 
-    /** The neighbour by a direction, or -1. */
-    private int by(int c, int d) {
+    /** The neighbour by a direction, or -1; 4 stays. */
+    int by(int c, int d) {
         if (d == 4) return stand(c) ? c : -1;
         int nx = x(c) + (d == 0 ? 1 : d == 2 ? -1 : 0), ny = y(c) + (d == 1 ? 1 : d == 3 ? -1 : 0);
         if (nx < 0 || ny < 0 || nx >= w || ny >= h) return -1;
@@ -272,6 +272,9 @@ final class PlainHalls {
         r.add(c);
         return r.size();
     }
+
+    /** The last cell of a round that has one. */
+    int lastOf(int v) { return rounds.get(v).get(rounds.get(v).size() - 1); }
 
     int wipe(int v) {
         if (noWatcher(v)) return UNKNOWN;
